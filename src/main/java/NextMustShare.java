@@ -21,7 +21,8 @@ public final class NextMustShare {
     private static final int MOST_COST = 99;
     private static final int MOST_PURSE = 999;
     private static final int FIRST_HOUR = 10;
-    private static final int IMPOSSIBLE = Integer.MIN_VALUE;
+    /** Below what any row can be worth; its opposite is above. */
+    private static final int IMPOSSIBLE = -1000000;
 
     private final Text text = new Text();
     private final Larder larder = new Larder();
@@ -304,10 +305,14 @@ public final class NextMustShare {
     }
 
     public int round() {
-        int longest = 0;
+        beginAnew(rules);
+        plan.begin();
+        plan.weighAll(larder, 1);
+        int longest = IMPOSSIBLE;
         int start = NONE;
         for (int d = 0; d < larder.dishes(); d++) {
-            int length = roundFrom(d);
+            goRound(d);
+            int length = plan.greatest(steps, 3, DISHES);
             if (length > longest) {
                 longest = length;
                 start = d;
@@ -316,7 +321,8 @@ public final class NextMustShare {
         if (start == NONE) {
             return -2;
         }
-        roundFrom(start);
+        goRound(start);
+        plan.seek(steps, longest, longest);
         told.clear();
         plan.tell(steps, told);
         return longest;
@@ -369,14 +375,10 @@ public final class NextMustShare {
         return told.size();
     }
 
-    private int roundFrom(int first) {
-        beginAnew(rules);
+    private void goRound(int first) {
         steps.allow(0, 1 << first);
         steps.reach();
-        plan.begin();
-        plan.weighAll(larder, 1);
         plan.endWith(larder.sharing(first, rules.share()));
-        return plan.seek(steps, 3, DISHES);
     }
 
     // ---- joy
@@ -1507,6 +1509,8 @@ public final class NextMustShare {
         private final int[] ends = new int[SETS];
         private final int[] near = new int[LASTS];
         private final int[] allowed = new int[DISHES];
+        private final int[] holders = new int[STUFFS];
+        private final int[] most = new int[STUFFS];
         private int dishes;
         private int hot;
         private boolean hotStaysHot;
@@ -1524,14 +1528,19 @@ public final class NextMustShare {
                 }
             }
             near[EDGE] = ANY_END;
-            for (int set = 0; set < sets(); set++) {
-                fits[set] = isStocked(set, larder, law);
+            for (int s = 0; s < STUFFS; s++) {
+                holders[s] = larder.holdersOf(s);
+                most[s] = law.most(s);
+            }
+            fits[0] = true;
+            for (int set = 1; set < sets(); set++) {
+                fits[set] = fits[set & set - 1] && isStocked(set);
             }
         }
 
-        private static boolean isStocked(int set, Larder larder, Law law) {
+        private boolean isStocked(int set) {
             for (int s = 0; s < STUFFS; s++) {
-                if (Integer.bitCount(larder.holdersOf(s) & set) > law.most(s)) {
+                if (Integer.bitCount(holders[s] & set) > most[s]) {
                     return false;
                 }
             }
@@ -1604,7 +1613,7 @@ public final class NextMustShare {
             }
             int open = 0;
             for (int d = 0; d < dishes; d++) {
-                if ((bits >> d & 1) == 1 && fits(set | 1 << d)) {
+                if ((bits >> d & 1) == 1 && fits[set & ALL_DISHES | 1 << d]) {
                     open |= 1 << d;
                 }
             }
@@ -1685,14 +1694,20 @@ public final class NextMustShare {
             }
         }
 
-        /** Marks the rows of the greatest worth among those of some lengths; the worth. */
-        int seek(Steps steps, int least, int most) {
+        /** The greatest worth of rows of some lengths, IMPOSSIBLE if there are none. */
+        int greatest(Steps steps, int least, int most) {
             int greatest = IMPOSSIBLE;
             for (int set = steps.from(); set < steps.sets(); set++) {
                 if (isGoal(steps, set, least, most)) {
                     greatest = Math.max(greatest, worth(steps, set));
                 }
             }
+            return greatest;
+        }
+
+        /** Marks the rows of the greatest worth, which it tells. */
+        int seek(Steps steps, int least, int most) {
+            int greatest = greatest(steps, least, most);
             Arrays.fill(goals, 0);
             more = 0;
             if (greatest == IMPOSSIBLE) {
@@ -1710,11 +1725,11 @@ public final class NextMustShare {
 
         private boolean isGoal(Steps steps, int set, int least, int most) {
             return (steps.ends(set) & lasts) != 0 && steps.more(set) >= least && steps.more(set) <= most
-                    && sum(costs, set & ~steps.from()) <= purse;
+                    && (purse == MOST_PURSE || sum(costs, set & ~steps.from()) <= purse);
         }
 
         private int worth(Steps steps, int set) {
-            int least = Integer.MAX_VALUE;
+            int least = -IMPOSSIBLE;
             for (int k = 0; k < lines && k < GUESTS; k++) {
                 least = Math.min(least, sum(weights[k], set & ~steps.from()));
             }
