@@ -844,8 +844,20 @@ final class Model {
         return row.get(i);
     }
 
-    /** How many rows there are from nothing on, by which a caller sees whether to ask is dear. */
-    int rowsAnew() {
-        return anew().size();
+    /** How many rows there are from nothing on, counted no further than a bound: whether to ask is dear. */
+    int rowsUpTo(int bound) {
+        return countRows(new ArrayList<>(), 0, bound);
+    }
+
+    private int countRows(List<Dish> ahead, int counted, int bound) {
+        int count = counted + 1;
+        for (Dish dish : dishes) {
+            if (count < bound && why(ahead, dish, law, stores) == 0) {
+                ahead.add(dish);
+                count = countRows(ahead, count, bound);
+                ahead.remove(ahead.size() - 1);
+            }
+        }
+        return count;
     }
 }
