@@ -1652,7 +1652,7 @@ public final class NextMustShare {
         private final int[][] weights = new int[GUESTS][DISHES];
         private final int[] goals = new int[SETS];
         private final int[] costs = new int[DISHES];
-        private final int[] follow = new int[LASTS];
+        private final int[] follow = new int[DISHES];
         private int lines;
         private int lasts;
         private int purse;
@@ -1786,8 +1786,8 @@ public final class NextMustShare {
         }
 
         /**
-         * The fewest STUFFS of a cold DISH with which all can be one row, NONE if there are none. A row of
-         * all falls in two where the DISH is to stand; which two DISHES are then beside it is what counts.
+         * The fewest STUFFS of a cold DISH with which all can be one row, NONE if there are none. If all
+         * can't be a row without it, it stands between two DISHES; which two these can be is what counts.
          */
         int joiningStuffs(Steps steps, Larder larder, Law law) {
             int all = larder.all();
@@ -1828,12 +1828,12 @@ public final class NextMustShare {
             return steps.isHotToStay() && (steps.hot() >> dish & 1) == 1 && (rest & ~steps.hot()) != 0;
         }
 
-        /** Finds for each DISH (or EDGE) ahead of the gap which can be behind it, a cold one between. */
+        /** Finds for each DISH ahead of the gap which can be behind it, if a cold one comes between. */
         private void findGaps(Steps steps, int all) {
             Arrays.fill(follow, 0);
             for (int set = 0; set <= all && set < SETS; set++) {
                 boolean tooHot = steps.isHotToStay() && (set & steps.hot()) != 0;
-                for (int last = 0; last < LASTS && !tooHot; last++) {
+                for (int last = 0; last < DISHES && !tooHot; last++) {
                     if ((steps.ends(set) >> last & 1) == 1) {
                         follow[last] |= goals[all & ~set];
                     }
@@ -1848,9 +1848,9 @@ public final class NextMustShare {
                     return false;
                 }
             }
-            int beside = larder.holdersOfSome(stuffs, law.share()) | 1 << EDGE;
-            beside &= law.heat() == 2 ? larder.hotDishes() | 1 << EDGE : ANY_END;
-            for (int last = 0; last < LASTS; last++) {
+            int beside = larder.holdersOfSome(stuffs, law.share());
+            beside &= law.heat() == 2 ? larder.hotDishes() : ALL_DISHES;
+            for (int last = 0; last < DISHES; last++) {
                 if ((beside >> last & 1) == 1 && (follow[last] & beside) != 0) {
                     return true;
                 }

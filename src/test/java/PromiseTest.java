@@ -831,6 +831,18 @@ public final class PromiseTest {
         d.due("by turns it can", d.x.made(), 2, 3);
         d.x.law(0, 2);
         d.due("shares one alone", d.x.made(), -2, 3);
+        Court f = new Court("promise 45, all of them", "abcd1;efgh1");
+        f.x.law(0, 4);
+        f.due("eight", f.x.made(), 8, 255);
+        Court g = new Court("promise 45, the fewest ahead of the least", "abc1;def1;ah1;dh1");
+        g.x.law(1, 3);
+        g.x.law(0, 2);
+        g.due("none joins all four", g.x.made(), -2);
+        Court h = new Court("promise 45, the fewest ahead of the least", "abh1;cdg1;h2;g2;ab1;cd1");
+        h.due("g and h", h.x.made(), 2, 5);
+        h.x.store(0, 2);
+        h.x.store(1, 2);
+        h.due("not a, nor b", h.x.made(), 2, 132);
         Court e = new Court("promise 45, ten", "ab1;ac1;ad1;ae1;af1;gh1;g1;h1;gh2;gh3");
         e.due("an eleventh", e.x.made(), 2, 65);
     }
