@@ -23,10 +23,11 @@ public final class MadeTest {
         StringBuilder kitchen = new StringBuilder();
         int dishes = 2 + random.nextInt(4);
         int cut = 2 + random.nextInt(5);
+        int over = random.nextInt(3);
         for (int d = 0; d < dishes; d++) {
             boolean low = random.nextBoolean();
             StringBuilder s = new StringBuilder();
-            for (int c = low ? 0 : cut; c < (low ? cut : 8); c++) if (random.nextInt(3) > 0) s.append((char) ('a' + c));
+            for (int c = low ? 0 : Math.max(0, cut - over); c < (low ? Math.min(8, cut + over) : 8); c++) if (random.nextInt(3) > 0) s.append((char) ('a' + c));
             if (s.length() == 0) s.append(low ? 'a' : 'h');
             kitchen.append(d == 0 ? "" : ";").append(s).append(1).append(random.nextInt(3) == 0 ? "H" : "");
         }
@@ -34,7 +35,7 @@ public final class MadeTest {
         Model model = new Model();
         model.text = kitchen.toString();
         model.kitchen();
-        int[] law = {1 + random.nextInt(2), random.nextBoolean() ? 9 : 2 + random.nextInt(4), random.nextInt(3)};
+        int[] law = {1 + Math.min(2, random.nextInt(2 + over)), random.nextBoolean() ? 9 : 2 + random.nextInt(4), random.nextInt(3)};
         for (int what = 0; what < 3; what++) court.due("law", court.x.law(what, law[what]), model.law(what, law[what]));
         for (int k = 0; k < 3; k++) {
             int stuff = random.nextInt(8), v = random.nextInt(6);

@@ -834,12 +834,13 @@ public final class PromiseTest {
         Court f = new Court("promise 45, all of them", "abcd1;efgh1");
         f.x.law(0, 4);
         f.due("eight", f.x.made(), 8, 255);
-        Court g = new Court("promise 45, the fewest ahead of the least", "abc1;def1;ah1;dh1");
-        g.x.law(1, 3);
+        Court g = new Court("promise 45, the fewest ahead of the least", "abh1;cdh1");
         g.x.law(0, 2);
-        g.due("none joins all four", g.x.made(), -2);
-        Court h = new Court("promise 45, the fewest ahead of the least", "abh1;cdg1;h2;g2;ab1;cd1");
-        h.due("g and h", h.x.made(), 2, 5);
+        g.due("a, c, h, not a, b, c, d", g.x.made(), 3, 133);
+        g.x.store(7, 2);
+        g.due("without h", g.x.made(), 4, 15);
+        Court h = new Court("promise 45, of as few the least", "abh1;cdg1;h2;g2;ab1;cd1");
+        h.due("a and c", h.x.made(), 2, 5);
         h.x.store(0, 2);
         h.x.store(1, 2);
         h.due("not a, nor b", h.x.made(), 2, 132);
