@@ -464,11 +464,11 @@ public final class NextMustShare {
     // ---- mends
 
     public int mend(int i, int stuff) {
-        if (!isWhole(i)) {
-            return -3;
-        }
         if (stuff < NONE || stuff >= STUFFS) {
             return NONE;
+        }
+        if (!isWhole(i)) {
+            return -3;
         }
         otherRules.copy(rules);
         if (stuff != NONE) {
@@ -532,11 +532,11 @@ public final class NextMustShare {
     }
 
     public int late(int i, int h) {
-        if (!isWhole(i)) {
-            return -3;
-        }
         if (h < 1 || h > 9) {
             return NONE;
+        }
+        if (!isWhole(i)) {
+            return -3;
         }
         told.clear();
         return menus[i].cook(larder, h, told);

@@ -658,8 +658,8 @@ final class Model {
     }
 
     int mend(int i, int stuff) {
-        if (!whole(i)) return -3;
         if (stuff < -1 || stuff > 7) return -1;
+        if (!whole(i)) return -3;
         List<Integer> menu = menus.get(i);
         int[] left = stores.clone();
         if (stuff >= 0) left[stuff] = 0;
@@ -710,8 +710,8 @@ final class Model {
     }
 
     int late(int i, int h) {
-        if (!whole(i)) return -3;
         if (h < 1 || h > 9) return -1;
+        if (!whole(i)) return -3;
         int[] free = new int[h];
         int late = 0;
         row = new ArrayList<>();

@@ -712,7 +712,14 @@ public final class PromiseTest {
         c.menu(2, "A?");
         for (int i : new int[] {2, 3, -1, LOW, HIGH}) c.due("mend(" + i + ", NONE)", c.x.mend(i, NONE), -3, 0, 1);
         for (int s : new int[] {8, -2, LOW, HIGH}) c.due("mend(0, " + s + ")", c.x.mend(0, s), NONE, 0, 1);
-        c.due("no such menu is asked first", c.x.mend(3, 8), -3, 0, 1);
+        Court none = new Court("promise 38, another number is asked first");
+        for (int s : new int[] {8, -2, -633183154, LOW, HIGH}) {
+            for (int i : new int[] {0, 2, 3, -1, LOW, HIGH}) {
+                c.due("mend(" + i + ", " + s + ")", c.x.mend(i, s), NONE, 0, 1);
+                none.due("mend(" + i + ", " + s + ")", none.x.mend(i, s), NONE);
+            }
+        }
+        none.due("mend(0, 7)", none.x.mend(0, 7), -3);
         c.menu(0, "ABCDEABCDE");
         c.due("more than there are", c.x.mend(0, NONE), -2, 0, 1);
     }
@@ -774,7 +781,14 @@ public final class PromiseTest {
             c.due("hearths(" + i + ")", c.x.hearths(i), -3, 0, 0, 0);
             c.due("late(" + i + ", 1)", c.x.late(i, 1), -3, 0, 0, 0);
         }
-        c.due("no such menu is asked first", c.x.late(3, 0), -3, 0, 0, 0);
+        Court none = new Court("promise 42, another h is asked first");
+        for (int h : new int[] {0, 10, NONE, LOW, HIGH}) {
+            for (int i : new int[] {0, 1, 2, 3, -1, LOW, HIGH}) {
+                c.due("late(" + i + ", " + h + ")", c.x.late(i, h), NONE, 0, 0, 0);
+                none.due("late(" + i + ", " + h + ")", none.x.late(i, h), NONE);
+            }
+        }
+        none.due("late(0, 9)", none.x.late(0, 9), -3);
     }
 
     private static void promise43and44() {
