@@ -252,6 +252,10 @@ final class BanquetEdges {
             .ask("falls(1, 3, 0)", 0).ask("falls(1, 2, 0)", 1).ask("falls(1, 1, 0)", 3).ask("falls(1, 9, 1)", 0)
             .ask("turn(0)", 1).ask("falls(1, 9, 1)", 1).ask("falls(1, 9, 2)", 3).ask("falls(8, 1, 2)", 3)
             .ask("law(0, 1)", 1).ask("law(1, 9)", 9).ask("law(2, 0)", 0);
+        Trial.of(21, "and would not be with SHARE, TIMES, HEAT told.").kitchen("ab1;ab2").menu(0, "AB")
+            .refuse("mend(0, 0)", -2).ask("falls(1, 9, 0)", 0).ask("falls(3, 9, 0)", 1).refuse("mend(0, 1)", -2)
+            .ask("falls(1, 2, 1)", 0).ask("falls(1, 9, 0)", 0).ask("law(0, 2)", 1).ask("falls(2, 9, 0)", 0)
+            .ask("falls(3, 9, 0)", 1).ask("falls(1, 1, 0)", 1);
         Trial t = Trial.of(21, "NONE: others than THE LAW can be.").kitchen("abcdefgh1;abcdefgh2H").menu(0, "AB");
         t.ask("falls(8, 9, 2)", 0).ask("falls(1, 1, 0)", 1).outside("falls(*, 9, 0)", NONE, 1, 8);
         t.outside("falls(1, *, 0)", NONE, 1, 9).outside("falls(1, 9, *)", NONE, 0, 2).refuse("falls(0, 0, 0)", NONE);

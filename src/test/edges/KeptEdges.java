@@ -27,6 +27,10 @@ final class KeptEdges {
             .serve(9, 8, 7, 6, 5, 4, 3, 2, 1, 0).ask("keep(1)", 1).ask("over()", 10).ask("again(1)", 1).ask("count(2)", 10)
             .ask("back()", 0).ask("back()", 1).ask("again(1)", 1).ask("back()", 0).ask("store(0, 1)", 99).ask("over()", 9)
             .ask("again(1)", 1).ask("store(0, 1)", 99);
+        Trial.of(46, "THE BANQUET, STORES, THE LAW are kept under a number 0 .. 1: true").kitchen(TEN).serve(7, 0, 5)
+            .ask("keep(0)", 1).ask("over()", 3).serve(1, 2, 3, 4).ask("keep(1)", 1).ask("again(0)", 1).ask("count(3)", 5)
+            .ask("back()", 5).ask("back()", 0).ask("back()", 7).refuse("back()", NONE).serve(9, 8).ask("again(1)", 1)
+            .ask("back()", 4).ask("back()", 3).ask("back()", 2).ask("back()", 1).refuse("back()", NONE);
         Trial.of(46, "Refused: others.").kitchen("a1").serve(0).ask("keep(1)", 1).ask("back()", 0).outside("keep(*)", 0, 0, 1)
             .refuse("again(0)", 0).ask("again(1)", 1).ask("count(2)", 1);
     }

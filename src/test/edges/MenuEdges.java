@@ -25,6 +25,8 @@ final class MenuEdges {
         eats();
         made();
         madeLeast();
+        madeHeat();
+        madeBetween();
         madeNone();
     }
 
@@ -229,6 +231,27 @@ final class MenuEdges {
             .tell("made()", 0, 0).ask("law(2, 1)", 0).tell("made()", 0, 0).ask("law(1, 2)", 9).tell("made()", 0, 0);
         Trial.of(45, "0 (the ROW 0): they can be without").kitchen(TEN).tell("made()", 0, 0).serve(0, 9).tell("made()", 0, 0)
             .ask("store(2, 6)", 99).tell("made()", 0, 0).ask("store(2, 5)", 6).refuse("made()", -2);
+    }
+
+    private static void madeHeat() {
+        String cold = "The fewest STUFFS of a cold DISH that is made more";
+        Trial.of(45, cold).kitchen("a1H;b1").tell("made()", 2, 3).ask("law(2, 1)", 0).tell("made()", 2, 3).ask("law(2, 2)", 1)
+            .refuse("made()", -2);
+        Trial.of(45, cold).kitchen("a1;bh1H;ch1").tell("made()", 2, 3).ask("law(2, 1)", 0).tell("made()", 2, 5);
+        Trial.of(45, cold).kitchen("a1;ch1;dh1;h1H").ask("law(2, 1)", 0).tell("made()", 2, 5);
+        Trial.of(45, cold).kitchen("h1H;ch1;dh1;a1").ask("law(2, 1)", 0).tell("made()", 2, 5);
+        Trial.of(45, cold).kitchen("a1H;b1H").ask("law(2, 1)", 0).refuse("made()", -2).kitchen("a1;b1")
+            .refuse("made()", -2).ask("law(2, 2)", 1).tell("made()", 2, 3).ask("law(2, 0)", 2).tell("made()", 2, 3);
+        Trial.of(45, cold).kitchen("a1H;bc1H;c1").ask("law(2, 2)", 0).tell("made()", 2, 3).ask("law(2, 1)", 2)
+            .refuse("made()", -2);
+    }
+
+    private static void madeBetween() {
+        String all = "so that all DISHES, that one too, can be one BANQUET from nothing on: how many";
+        Trial.of(45, all).kitchen("cf1;ag1;bh1;fgh1").tell("made()", 2, 3).ask("store(0, 1)", 99).tell("made()", 2, 6)
+            .ask("store(2, 1)", 99).tell("made()", 2, 34);
+        Trial.of(45, all).kitchen("ab1;bc1;cd1").tell("longest()", 3, 0, 1, 2).ask("law(0, 2)", 1).refuse("made()", -2)
+            .ask("law(0, 1)", 2).tell("made()", 0, 0).kitchen("ef1").tell("made()", 2, 17).ask("law(0, 2)", 1).refuse("made()", -2);
     }
 
     private static void madeNone() {

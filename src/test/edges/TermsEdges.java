@@ -45,6 +45,7 @@ final class TermsEdges {
         Trial.ofTerms("STUFFS a .. h (numbers 0 .. 7)").kitchen("a1;h2;abcdefgh3")
             .ask("dish(0, 0)", 1).ask("dish(1, 0)", 128).ask("dish(2, 0)", 255)
             .fault("kitchen()", "i1", 0).fault("kitchen()", "`1", 0).fault("kitchen()", "ai1", 1)
+            .fault("kitchen()", "aj1", 1).fault("kitchen()", "az1", 1).fault("kitchen()", "j1", 0).fault("kitchen()", "aA1", 1)
             .ask("store(0, 0)", 99).ask("store(7, 0)", 99).outside("store(*, 0)", NONE, 0, 7);
         Trial t = Trial.ofTerms("of each a STORE 0 .. 99 (at first 99)");
         for (int s = 0; s < 8; s++) {
@@ -102,11 +103,11 @@ final class TermsEdges {
     private static void guestText() {
         Trial.ofTerms("or a GUEST: G, letters of STUFFS it LOVES (rising, perhaps none)").kitchen("G-;Gabcdefgh-;Gg-")
             .ask("guest(2, 0)", 64).fault("kitchen()", "Gba-", 2).fault("kitchen()", "Gaa-", 2)
-            .fault("kitchen()", "Gi-", 1).fault("kitchen()", "GG-", 1).fault("kitchen()", "g-", 1)
+            .fault("kitchen()", "Gi-", 1).fault("kitchen()", "Gj-", 1).fault("kitchen()", "Gaz-", 2).fault("kitchen()", "GG-", 1).fault("kitchen()", "g-", 1)
             .fault("kitchen()", "abG-", 2);
         Trial.ofTerms("-, letters of STUFFS it BARS (rising, perhaps none)").kitchen("G-;G-abcdefgh;G-g")
             .ask("guest(2, 1)", 64).fault("kitchen()", "G-ba", 3).fault("kitchen()", "G-aa", 3)
-            .fault("kitchen()", "G-i", 2).fault("kitchen()", "G--", 2).fault("kitchen()", "G", 1)
+            .fault("kitchen()", "G-i", 2).fault("kitchen()", "G-j", 2).fault("kitchen()", "G-az", 3).fault("kitchen()", "G--", 2).fault("kitchen()", "G", 1)
             .fault("kitchen()", "Ga", 2).fault("kitchen()", "Ga;", 2).fault("kitchen()", "G-a1", 3);
     }
 

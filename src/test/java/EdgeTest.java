@@ -5,6 +5,7 @@
 public final class EdgeTest {
     public static void main(String[] args) {
         TermsEdges.all();
+        LawEdges.all();
         KitchenEdges.all();
         BanquetEdges.all();
         FurtherEdges.all();
