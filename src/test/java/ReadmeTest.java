@@ -1,4 +1,3 @@
-import java.io.IOException;
 import java.lang.reflect.Method;
 import java.lang.reflect.Modifier;
 import java.net.URL;
@@ -9,7 +8,6 @@ import java.util.NoSuchElementException;
 import java.util.function.Supplier;
 import java.util.regex.Matcher;
 import java.util.regex.Pattern;
-import javax.tools.ToolProvider;
 
 /** The code of README.md compiles, and its calls answer what stands behind them there. */
 public final class ReadmeTest {
@@ -69,11 +67,12 @@ public final class ReadmeTest {
         return "ReadmeTest.due(court, \"" + shown + "\", () -> \"\" + " + call.group(1) + ", \"" + call.group(2) + "\");";
     }
 
-    private static Path compile(String code, Path folder) throws IOException {
+    private static Path compile(String code, Path folder) throws Exception {
         Path file = folder.resolve("ReadmeCode.java");
         Files.writeString(file, code);
-        int fault = ToolProvider.getSystemJavaCompiler().run(null, null, null, "--release", "17", "-cp",
-                System.getProperty("java.class.path"), "-d", folder.toString(), file.toString());
+        int fault = new ProcessBuilder("javac", "--release", "17", "-encoding", "UTF-8", "-cp",
+                System.getProperty("java.class.path"), "-d", folder.toString(), file.toString())
+                .inheritIO().start().waitFor();
         check(fault == 0, "the code of README.md does not compile");
         return folder;
     }
